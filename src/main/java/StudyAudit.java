@@ -66,9 +66,9 @@ public final class StudyAudit {
 
     public boolean open(int course, boolean is) throws IllegalArgumentException {
         checkCourse(course);
-        boolean was = has(catalogue.openCourses, course);
-        catalogue.openCourses = is ? with(catalogue.openCourses, course) : without(catalogue.openCourses, course);
-        return was;
+        int before = catalogue.openCourses;
+        catalogue.openCourses = is ? with(before, course) : without(before, course);
+        return has(before, course);
     }
 
     public int expire(int course, int terms) throws IllegalArgumentException {
@@ -630,14 +630,18 @@ public final class StudyAudit {
         private boolean shortenOnce() {
             boolean isShorter = false;
             for (int a = 0; a < arcs; a++) {
-                long start = distance[from[a]];
-                if (room[a] > 0 && start != FAR && start + price[a] < distance[to[a]]) {
-                    distance[to[a]] = start + price[a];
+                if (room[a] > 0 && isShortcut(a)) {
+                    distance[to[a]] = distance[from[a]] + price[a];
                     arrival[to[a]] = a;
                     isShorter = true;
                 }
             }
             return isShorter;
+        }
+
+        private boolean isShortcut(int arc) {
+            long start = distance[from[arc]];
+            return start != FAR && start + price[arc] < distance[to[arc]];
         }
 
         private void takeWay(int source, int sink) {
