@@ -37,10 +37,6 @@ final class Check {
         }
     }
 
-    boolean hasFailed() {
-        return wrong > 0;
-    }
-
     void end() {
         System.out.println(wrong + " of " + checked + " answers are not as due");
         if (wrong > 0) {
