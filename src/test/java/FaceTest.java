@@ -7,7 +7,7 @@ import java.util.Set;
 import java.util.TreeSet;
 import java.util.stream.Collectors;
 
-/** The class shows the document's face and nothing else. */
+/** The section "The public face": the class shows the face that the document tells, and nothing else. */
 public final class FaceTest {
     private static final Set<String> FACE = new TreeSet<>(Set.of(
             "int group(int, int) IllegalArgumentException IllegalStateException",

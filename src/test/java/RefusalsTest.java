@@ -1,20 +1,20 @@
 import java.util.List;
 import java.util.function.Supplier;
 
-/** The last paragraph of "Terms": what a call throws, and that a call that throws changes nothing. */
+/** The last paragraph of "Terms": what a call throws, and that a call that throws, or only asks, changes nothing. */
 public final class RefusalsTest {
     private static final int NONE = Offices.NONE;
     private static final Check CHECK = new Check();
 
-    private interface Refused {
+    private interface Call {
         Object on(StudyAudit x);
     }
 
-    private interface RefusedNumber {
+    private interface CallWith {
         Object on(StudyAudit x, int number);
     }
 
-    /** Offices to refuse calls in, with the last numbers that are there. */
+    /** Offices to make calls in, with the last numbers that are there. */
     private static final class Kind {
         private final String name;
         private final Supplier<StudyAudit> maker;
@@ -78,7 +78,7 @@ public final class RefusalsTest {
         for (int c = 0; c < 12; c++) {
             x.course(c % 6);
         }
-        Offices.addRequirements(x, 0, 1, 2, 3, 2, 1);
+        Offices.addRequirements(x, 0, 1, 2, 2, 1, 1);
         Offices.addRequirements(x, 1, 1, 1, 1, 1, 6);
         Offices.addRequirements(x, 2, 1, 1, 1, 1, 1);
         for (int r = 1; r <= 5; r++) {
@@ -100,26 +100,31 @@ public final class RefusalsTest {
         return x;
     }
 
-    private static void refused(Kind kind, String exception, String what, Refused call) {
+    private static void refused(Kind kind, String exception, String what, Call call) {
+        answered(kind, "throws." + exception, what, call);
+    }
+
+    /** The answer is as due, and nothing is changed. */
+    private static void answered(Kind kind, Object due, String what, Call call) {
         StudyAudit x = kind.maker.get();
-        CHECK.due(kind.name + ": " + what, "throws." + exception, () -> call.on(x));
+        CHECK.due(kind.name + ": " + what, due, () -> call.on(x));
         CHECK.due(kind.name + ": what is changed by " + what, "no difference",
                 () -> State.difference(State.of(x), kind.state));
     }
 
-    private static void illegalArgument(Kind kind, String what, Refused call) {
+    private static void illegalArgument(Kind kind, String what, Call call) {
         refused(kind, "IllegalArgumentException", what, call);
     }
 
-    private static void illegalState(Kind kind, String what, Refused call) {
+    private static void illegalState(Kind kind, String what, Call call) {
         refused(kind, "IllegalStateException", what, call);
     }
 
-    private static void noSuchElement(Kind kind, String what, Refused call) {
+    private static void noSuchElement(Kind kind, String what, Call call) {
         refused(kind, "NoSuchElementException", what, call);
     }
 
-    private static void illegalArguments(Kind kind, String what, int[] numbers, RefusedNumber call) {
+    private static void illegalArguments(Kind kind, String what, int[] numbers, CallWith call) {
         for (int number : numbers) {
             illegalArgument(kind, what + " " + number, x -> call.on(x, number));
         }
@@ -270,5 +275,37 @@ public final class RefusalsTest {
         noSuchElement(WITHOUT_RECEIPT, "used", x -> x.used(1));
         noSuchElement(WITHOUT_RECEIPT, "receipt 0", x -> x.receipt(0));
         noSuchElement(BARE, "receipt 6", x -> x.receipt(6));
+    }
+
+    private static void nothingBeyond() {
+        CHECK.sentence("Not promised", "Nothing is promised beyond the answers and state changes described above");
+    }
+
+    static void questionsChangeNothing() {
+        nothingBeyond();
+        answered(SMALL, true, "lives", x -> x.lives(0, 1, Offices.HIGHEST));
+        answered(SMALL, 1, "assigned", x -> x.assigned(2));
+        answered(SMALL, 1, "used", x -> x.used(1));
+        answered(SMALL, 3, "receipt", x -> x.receipt(0));
+        for (Kind kind : List.of(WITHOUT_RECEIPT, SMALL)) {
+            answered(kind, 2, "supply", x -> x.supply(0, 6, -1));
+            answered(kind, NONE, "fewestMore with too few", x -> x.fewestMore(0, 6));
+        }
+        answered(FULL, 7, "fewestMore", x -> x.fewestMore(1, 9));
+    }
+
+    static void whatIsSoAlreadyChangesNothing() {
+        nothingBeyond();
+        for (Kind kind : List.of(WITHOUT_RECEIPT, SMALL)) {
+            answered(kind, false, "open as it is", x -> x.open(0, false));
+            answered(kind, 3, "expire as it is", x -> x.expire(2, 3));
+            answered(kind, false, "allow once more", x -> x.allow(0, 1, 1));
+            answered(kind, 4, "pass once more", x -> x.pass(0, 1, 4));
+            answered(kind, 5, "pass earlier", x -> x.pass(0, 2, 0));
+            answered(kind, false, "substitute once more", x -> x.substitute(0, 2, 0));
+            answered(kind, false, "substitute the same", x -> x.substitute(0, 1, 1));
+            answered(kind, 2, "exempt by 0", x -> x.exempt(1, 2, 0));
+            answered(kind, 0, "student as it is", x -> x.student(0, 0));
+        }
     }
 }

@@ -609,6 +609,28 @@ public final class TermsTest {
         CHECK.illegalState("a refused audit", () -> x.audit(2, 1));
         CHECK.receipt("still student 3", x, 2, 1, 0b10, 2, 1, 3, 9);
         x.audit(0, 1);
+        CHECK.receipt("student 0 again, of whom nothing is unmet", x, 2, 2, 0, 0, 0, 0, 1);
         CHECK.assignment("student 0 again", x, 1, 1);
+    }
+
+    /** Nothing of a greater audit just before comes into a lesser one. */
+    static void receiptAfterAGreaterOne() {
+        CHECK.sentence("Terms", "THE RECEIPT is of the latest audit, as it was then, whatever is changed later.");
+        StudyAudit x = Offices.office(12, 3, 2, 1, 2, 4);
+        for (int r = 1; r <= 5; r++) {
+            Offices.allow(x, r, Offices.ALL_COURSES);
+        }
+        Offices.enter(x, Offices.ALL_COURSES);
+        x.student(1, 0);
+        int[] all = {1, 1, 1, 2, 2, 3, 4, 4, 5, 5, 5, 5};
+        for (int passed = 0; passed < 12; passed++) {
+            int[] due = new int[12];
+            System.arraycopy(all, 0, due, 0, passed);
+            int lacks = 12 - passed;
+            CHECK.due("twelve courses", 0, () -> x.audit(0, 1));
+            CHECK.due(passed + " courses", lacks, () -> x.audit(1, 1));
+            CHECK.assignment(passed + " courses", x, due);
+            x.pass(1, passed, 1);
+        }
     }
 }
