@@ -565,7 +565,8 @@ public final class StudyAudit {
 
     /** Nodes and arcs with room and price, through which units are sent as cheaply as can be. */
     private static final class Network {
-        private static final long FAR = Long.MAX_VALUE;
+        // Above the sum of all prices, and low enough that a price can be added without wrapping around.
+        private static final long FAR = 1L << 62;
 
         int arcs;
         final int[] from;
